@@ -120,7 +120,9 @@ public final class CardCastle {
         castle.copyFrom(parser.castle);
         castle.settle();
         history.kept = 0;
-        Arrays.fill(isSaved, false);
+        for (int slot = 0; slot < SLOTS; slot++) {
+            isSaved[slot] = false;
+        }
         loaded = true;
         return rules.cards;
     }
@@ -1113,12 +1115,18 @@ public final class CardCastle {
         }
 
         void pairToHand(int spot) {
+            if (!grid.pairAt(spot)) {
+                return;
+            }
             cards.spots[grid.first[spot]] = IN_THE_HAND;
             cards.spots[grid.second[spot]] = IN_THE_HAND;
             grid.first[spot] = NONE;
         }
 
         void flatToHand(int spot) {
+            if (!grid.flatAt(spot)) {
+                return;
+            }
             cards.spots[grid.flat[spot]] = IN_THE_HAND;
             grid.flat[spot] = NONE;
         }

@@ -36,6 +36,7 @@ public final class PromiseTest {
         shaking();
         undoing();
         saving();
+        stateBrought();
         withoutText();
         c.end("PromiseTest");
     }
@@ -335,6 +336,19 @@ public final class PromiseTest {
         c.noIndex("12 column 3 at level 1", () -> x.flat(1, 3, 9));
         c.noArgument("12 what 4", () -> x.flat(1, 0, 4));
         c.noArgument("12 what -1 on level 0", () -> x.flat(0, 0, -1));
+        CardCastle y = base();
+        y.takeDown(1, 0);
+        c.same("12 the load behind a change", y.flat(1, 0, 1), 4);
+        y.undo();
+        c.same("12 the load behind undo", y.flat(1, 0, 1), 13);
+        y.fallsIfPulled(4);
+        c.same("12 the load behind a trial", y.flat(1, 0, 1), 13);
+        y.fallsIfPulled(4);
+        c.same("23 the load behind a trial", y.onTable(1), 10);
+        y.fallsIfPulled(4);
+        c.same("25 the reserves behind a trial", y.meanReserve(), 83.0 / 3.0);
+        y.fallsIfPulled(4);
+        c.same("38 the load behind a trial", Checks.written(y, y.writePair(0, 0)), "a/45\\b 7:40");
     }
 
     private static void places() {
@@ -417,6 +431,8 @@ public final class PromiseTest {
         c.same("27 strengthOf built ones", x.strengthOf(0, 7, 20), 14);
         c.noIndex("27 no such card", () -> x.strengthOf(0, 10, 99));
         c.noIndex("27 no such card", () -> x.strengthOf(-1, -1, 45));
+        c.noIndex("27 no such first card", () -> x.strengthOf(10, 0, 45));
+        c.noIndex("27 no such first card", () -> x.strengthOf(-1, 0, 45));
         c.noArgument("27 the same card", () -> x.strengthOf(1, 1, 45));
         c.noArgument("27 angle 19", () -> x.strengthOf(0, 1, 19));
         c.noArgument("27 angle 71", () -> x.strengthOf(0, 1, 71));
@@ -506,8 +522,46 @@ public final class PromiseTest {
         c.same("31 the column with the most", z.worstColumn(30), 1);
         c.same("31 of several the smallest", z.worstColumn(99), 0);
         c.same("30 with damping", z.leastForce(0), 30);
+        edgesOfShaking();
         CardCastle stiff = Checks.loaded("table 2 1 99 9 0 0;card a 9 1;card b 9 1;lean 0 0 a b 45");
         c.same("30 nothing by 99", stiff.leastForce(0), -1);
+    }
+
+    private static void edgesOfShaking() {
+        CardCastle x = Checks.loaded("table 2 1 1 9 1 0;card a 1 1;card b 1 1;lean 0 0 a b 45");
+        x.tremor(2, 0);
+        c.same("32 by ones", x.calmIn(), 1);
+        x.tremor(1, 0);
+        c.same("30 the next one may be weak", x.leastForce(0), 2);
+        CardCastle y = Checks.loaded("table 2 1 98 9 7 0;card a 1 1;card b 1 1;lean 0 0 a b 45");
+        y.tremor(98, 0);
+        y.tremor(98, 0);
+        c.same("32 rounded up to nothing", y.calmIn(), 14);
+        c.same("30 by 99 and not by less", Checks.loaded("table 2 1 48 0 0 0;card a 1 1;card b 1 1;lean 0 0 a b 45").leastForce(0), 98);
+        CardCastle z = Checks.loaded("table 2 1 10 0 0 0;card a 4 1;card b 5 1;lean 0 0 a b 45");
+        c.same("30 exactly 99", z.leastForce(1), 99);
+        CardCastle one = Checks.loaded("table 2 8 3 0 0 0;" + CARDS + ";lean 0 0 a b 45");
+        one.tremor(30, 0);
+        c.same("30 ten more", one.leastForce(0), 10);
+        CardCastle two = Checks.loaded("table 2 1 1 0 0 0;card a 1 1;card b 1 1;lean 0 0 a b 45");
+        two.tremor(3, 0);
+        c.same("30 not by 1", two.leastForce(0), 2);
+        c.same("47 with DAMP 0 everywhere", two.fallsBy(2, 1), 1);
+        slanted();
+    }
+
+    /** At level 1 the middle of a place lies between two columns. */
+    private static void slanted() {
+        CardCastle x = Checks.loaded("table 4 2 90 5 0 0;" + CARDS + ";lean 0 1 a b 45;lean 0 2 c d 45;lay 1 1 g;lean 1 1 i f 45");
+        // 2 * 1 + 1 = 3: three from the column 0, one from the columns 1 and 2, three from the column 3.
+        x.tremor(40, 0);
+        c.same("4 level 1 at column 0", x.pair(1, 1, 3), 12);
+        x.tremor(40, 1);
+        c.same("4 level 1 at column 1", x.pair(1, 1, 3), 12 + 17);
+        x.tremor(40, 2);
+        c.same("4 level 1 at column 2", x.pair(1, 1, 3), 12 + 17 + 17);
+        x.tremor(40, 3);
+        c.same("4 level 1 at column 3", x.pair(1, 1, 3), 12 + 17 + 17 + 12);
     }
 
     private static void safePlaces() {
@@ -525,6 +579,12 @@ public final class PromiseTest {
         CardCastle z = Checks.loaded("table 3 2 9 0 0 0;card a 1 1;card b 1 1;card d 1 1;card e 1 1;"
             + "card k 1 9;lean 0 0 a b 20;lean 0 1 d e 20");
         c.same("35 something would fall", z.safest(4), -1);
+        CardCastle best = Checks.loaded("table 5 2 9 0 0 0;card a 2 1;card b 2 1;card d 9 1;card e 9 1;card f 9 1;card g 9 1;"
+            + "card k 1 9;card l 9 1;card m 9 1;card n 2 1;card o 3 1;"
+            + "lean 0 0 a b 45;lean 0 1 d e 45;lean 0 2 f g 45;lean 0 3 l m 45;lean 0 4 n o 20");
+        // The last pair has the strength 10: it is the weakest wherever the card lies, and at 103 it has 6 left.
+        c.same("35 of several the first", best.safest(6), 100);
+        c.same("27 the last pair", best.pair(0, 4, 6), 10);
         CardCastle none = base();
         c.same("35 no place left", none.safest(6), -1);
         c.same("35 nothing is changed", none.card(6, 2), 0);
@@ -594,6 +654,7 @@ public final class PromiseTest {
         c.same("41 the first card", x.pair(0, 0, 0), 1);
         c.same("41 the wobble", x.pair(0, 0, 3), 0);
         c.noIndex("41 no place", () -> x.lean(0, 4, 99, 99, 0));
+        c.noIndex("41 no place for cards of the hand", () -> x.lean(0, 4, 2, 3, 45));
         c.noIndex("41 no such card", () -> x.lean(0, 0, 10, 0, 45));
         c.noIndex("41 no such card", () -> x.lean(0, 0, 0, -1, 45));
         c.noArgument("41 built already", () -> x.lean(0, 0, 2, 3, 45));
@@ -607,6 +668,7 @@ public final class PromiseTest {
         c.same("41 edges of the angle", x.lean(0, 2, 8, 9, 70), 0);
         c.same("52 only what succeeds is a change", x.undoable(), 3);
         c.noIndex("42 no place", () -> x.lay(1, 3, 99));
+        c.noIndex("42 no place for a card of the hand", () -> x.lay(1, 3, 4));
         c.noIndex("42 no such card", () -> x.lay(1, 0, 10));
         c.noArgument("42 level 0", () -> x.lay(0, 3, 4));
         c.noArgument("42 on one pair", () -> x.lay(1, 2, 4));
@@ -869,6 +931,85 @@ public final class PromiseTest {
         c.same("54 behind a wrong text", x.restore(1), 6);
         Checks.load(x, BASE);
         c.noState("54 not behind load", () -> x.restore(1));
+    }
+
+    /** Each part of the state comes back by undo and by restore, and is new behind load. */
+    private static void stateBrought() {
+        CardCastle x = base();
+        x.pull(7);
+        x.tremor(20, 0);
+        x.tick(1);
+        x.save(0);
+        String before = allOf(x);
+        x.pickUp(5);
+        x.smooth(5);
+        x.lift(1, 0);
+        x.takeDown(0, 0);
+        x.lean(0, 3, 0, 5, 30);
+        x.tremor(99, 3);
+        x.pull(2);
+        x.tick(2);
+        c.same("52 eight changes", x.undoable(), 8);
+        c.holds("41 all is different", !before.equals(allOf(x)));
+        for (int change = 0; change < 8; change++) {
+            x.undo();
+        }
+        c.same("51 all is back", allOf(x), before);
+        x.tremor(99, 0);
+        x.tremor(99, 0);
+        c.same("54 restore", x.restore(0), 1);
+        c.same("54 all is back", allOf(x), before);
+        String fresh = allOf(base());
+        Checks.load(x, BASE);
+        c.same("3 all is new behind load", allOf(x), fresh);
+        answersBehindFalls();
+    }
+
+    private static void answersBehindFalls() {
+        CardCastle x = base();
+        c.same("43 pull", x.pull(4), 2);
+        c.same("34 only its own falls", x.fallsIfPulled(0), 1);
+        c.same("29 only its own falls", x.fallsBy(99, 0), 0);
+        c.same("21 only its own falls", x.supported(0, 1), 1);
+        c.same("43 only its own falls", x.pull(0), 1);
+        c.same("41 only its own falls", x.lean(0, 0, 4, 6, 45), 0);
+        c.same("49 only its own falls", x.turn(0, 0, 46), 0);
+        c.same("47 only its own falls", x.tremor(1, 0), 0);
+        c.same("47 the wobble of the old pair is gone", x.pair(0, 0, 3), 0);
+        x.tremor(40, 0);
+        c.same("47 (40 - 0) / 12", x.pair(0, 0, 3), 3);
+        x.takeDown(0, 0);
+        x.lean(0, 0, 4, 6, 45);
+        c.same("41 a wobble of 0 at first", x.pair(0, 0, 3), 0);
+    }
+
+    /** All that is told of a castle, in one line. */
+    private static String allOf(CardCastle x) {
+        StringBuilder all = new StringBuilder();
+        for (int what = 0; what <= 12; what++) {
+            all.append(x.count(what)).append(' ');
+        }
+        for (int card = 0; card < x.count(0); card++) {
+            for (int what = 0; what <= 5; what++) {
+                all.append(x.card(card, what)).append(' ');
+            }
+        }
+        for (int level = 0; level < x.setting(1); level++) {
+            for (int column = 0; column < x.setting(0) - level; column++) {
+                for (int what = 0; what <= 6; what++) {
+                    all.append(x.pair(level, column, what)).append(' ').append(x.flat(level, column, what / 2)).append(' ');
+                }
+            }
+        }
+        for (int index = 0; index < x.count(2); index++) {
+            all.append(x.onHeap(index)).append(' ');
+        }
+        for (int index = 0; index < Math.min(30, x.count(6)); index++) {
+            for (int what = 0; what <= 4; what++) {
+                all.append(x.fall(index, what)).append(' ');
+            }
+        }
+        return all.toString();
     }
 
     // ---- section 7: no text was loaded
