@@ -547,6 +547,9 @@ public final class PromiseTest {
         two.tremor(3, 0);
         c.same("30 not by 1", two.leastForce(0), 2);
         c.same("47 with DAMP 0 everywhere", two.fallsBy(2, 1), 1);
+        CardCastle soft = Checks.loaded("table 2 2 4 0 0 0;" + CARDS + ";card k 1 1;lean 0 0 a b 45;lean 0 1 c d 45;lay 1 0 j;lean 1 0 i k 45");
+        soft.tremor(4, 0);
+        c.same("30 already by 1", soft.leastForce(1), 1);
         slanted();
     }
 
