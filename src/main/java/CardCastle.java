@@ -348,7 +348,8 @@ public final class CardCastle {
 
     public int fallsBy(int force, int column) throws IllegalStateException, IllegalArgumentException {
         needTremor(force, column);
-        return fallsInTrial(force, column);
+        trial.copyFrom(castle);
+        return trial.quake(force, column);
     }
 
     public int leastForce(int column) throws IllegalStateException, IllegalArgumentException {
@@ -366,7 +367,8 @@ public final class CardCastle {
         int worst = 0;
         int most = 0;
         for (int column = 0; column < rules.settings[WIDE]; column++) {
-            int falls = fallsInTrial(force, column);
+            trial.copyFrom(castle);
+            int falls = trial.quake(force, column);
             if (falls > most) {
                 most = falls;
                 worst = column;
@@ -653,11 +655,6 @@ public final class CardCastle {
     }
 
     // ---- small helpers
-
-    private int fallsInTrial(int force, int column) {
-        trial.copyFrom(castle);
-        return trial.quake(force, column);
-    }
 
     private int leastReserveWith(int spot, int card) {
         trial.putFlat(spot, card);
@@ -1280,12 +1277,12 @@ public final class CardCastle {
 
         /** The name that some bytes are, as a number; NONE if they are none. */
         int nameAt(int start, int n) {
-            if (n < 1 || n > MOST_LETTERS) {
+            if (n < 1 || n > MOST_LETTERS || start < 0 || start > length - n) {
                 return NONE;
             }
             int name = 0;
             for (int index = start; index < start + n; index++) {
-                int letter = byteAt(index);
+                int letter = bytes[index];
                 if (letter < 'a' || letter > 'z') {
                     return NONE;
                 }
@@ -1309,7 +1306,7 @@ public final class CardCastle {
         }
 
         void begin(int n) {
-            end = n;
+            end = Math.min(n, input.length);
             next = 0;
         }
 
@@ -1330,7 +1327,7 @@ public final class CardCastle {
             } else if (sign >= '0' && sign <= '9') {
                 next = endOfRun('0', '9');
                 kind = next - start > MOST_DIGITS ? NO_TOKEN : A_NUMBER;
-                value = numberAt(start, Math.min(next, start + MOST_DIGITS));
+                value = numberAt(Math.min(next, start + MOST_DIGITS));
             } else {
                 next = start + 1;
                 kind = sign == ';' ? A_SEMICOLON : NO_TOKEN;
@@ -1339,16 +1336,16 @@ public final class CardCastle {
 
         private int endOfRun(char least, char most) {
             int index = start;
-            while (index < end && input.byteAt(index) >= least && input.byteAt(index) <= most) {
+            while (index < end && input.bytes[index] >= least && input.bytes[index] <= most) {
                 index++;
             }
             return index;
         }
 
-        private int numberAt(int from, int to) {
+        private int numberAt(int behind) {
             int number = 0;
-            for (int index = from; index < to; index++) {
-                number = number * 10 + input.byteAt(index) - '0';
+            for (int index = start; index < behind; index++) {
+                number = number * 10 + input.bytes[index] - '0';
             }
             return number;
         }
