@@ -92,6 +92,30 @@ final class Checks {
         return x;
     }
 
+    /** A text with the settings and some cards, all alike; the names are a to z, then aa to an. */
+    static String deck(String settings, int cards, int stiffness, int weight) {
+        StringBuilder text = new StringBuilder("table ").append(settings);
+        for (int card = 0; card < cards; card++) {
+            text.append(";card ").append(card < 26 ? "" : "a").append((char) ('a' + card % 26));
+            text.append(' ').append(stiffness).append(' ').append(weight);
+        }
+        return text.toString();
+    }
+
+    /** Builds level by level, as long as the cards go: 40 cards make 15 pairs and 10 flat cards on 5 columns. */
+    static void pyramid(CardCastle x, int columns) {
+        int card = 0;
+        for (int level = 0; level < columns; level++) {
+            for (int column = 0; column < columns - level; column++) {
+                if (level > 0) {
+                    x.lay(level, column, card++);
+                }
+                x.lean(level, column, card, card + 1, 45);
+                card += 2;
+            }
+        }
+    }
+
     /** The text that was written last, read by its number of bytes. */
     static String written(CardCastle x, int bytes) {
         StringBuilder signs = new StringBuilder();

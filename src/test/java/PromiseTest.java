@@ -943,7 +943,7 @@ public final class PromiseTest {
         x.tremor(20, 0);
         x.tick(1);
         x.save(0);
-        String before = allOf(x);
+        String before = Told.castle(x);
         x.pickUp(5);
         x.smooth(5);
         x.lift(1, 0);
@@ -953,18 +953,18 @@ public final class PromiseTest {
         x.pull(2);
         x.tick(2);
         c.same("52 eight changes", x.undoable(), 8);
-        c.holds("41 all is different", !before.equals(allOf(x)));
+        c.holds("41 all is different", !before.equals(Told.castle(x)));
         for (int change = 0; change < 8; change++) {
             x.undo();
         }
-        c.same("51 all is back", allOf(x), before);
+        c.same("51 all is back", Told.castle(x), before);
         x.tremor(99, 0);
         x.tremor(99, 0);
         c.same("54 restore", x.restore(0), 1);
-        c.same("54 all is back", allOf(x), before);
-        String fresh = allOf(base());
+        c.same("54 all is back", Told.castle(x), before);
+        String fresh = Told.castle(base());
         Checks.load(x, BASE);
-        c.same("3 all is new behind load", allOf(x), fresh);
+        c.same("3 all is new behind load", Told.castle(x), fresh);
         answersBehindFalls();
     }
 
@@ -984,35 +984,6 @@ public final class PromiseTest {
         x.takeDown(0, 0);
         x.lean(0, 0, 4, 6, 45);
         c.same("41 a wobble of 0 at first", x.pair(0, 0, 3), 0);
-    }
-
-    /** All that is told of a castle, in one line. */
-    private static String allOf(CardCastle x) {
-        StringBuilder all = new StringBuilder();
-        for (int what = 0; what <= 12; what++) {
-            all.append(x.count(what)).append(' ');
-        }
-        for (int card = 0; card < x.count(0); card++) {
-            for (int what = 0; what <= 5; what++) {
-                all.append(x.card(card, what)).append(' ');
-            }
-        }
-        for (int level = 0; level < x.setting(1); level++) {
-            for (int column = 0; column < x.setting(0) - level; column++) {
-                for (int what = 0; what <= 6; what++) {
-                    all.append(x.pair(level, column, what)).append(' ').append(x.flat(level, column, what / 2)).append(' ');
-                }
-            }
-        }
-        for (int index = 0; index < x.count(2); index++) {
-            all.append(x.onHeap(index)).append(' ');
-        }
-        for (int index = 0; index < Math.min(30, x.count(6)); index++) {
-            for (int what = 0; what <= 4; what++) {
-                all.append(x.fall(index, what)).append(' ');
-            }
-        }
-        return all.toString();
     }
 
     // ---- section 7: no text was loaded
