@@ -43,6 +43,7 @@ public final class CastleEdgeTest {
         shakiestTies();
         supportedAndAbove();
         onTableEdges();
+        loadsBehindTrials();
         meansAndShares();
         stiffestEdges();
         fallsByEdges();
@@ -739,6 +740,12 @@ public final class CastleEdgeTest {
         }
         c.same("21 nothing fell", x.count(6), 0);
         c.same("24 the weight of all", x.weight(), 40);
+        for (int[] d : due) {
+            c.same("22 asked alone", full("6 6 9 0 0 0").above(d[0], d[1]), d[3]);
+        }
+        x.pull(0);
+        c.same("21 what fell before does not count", x.supported(0, 2), 11);
+        c.same("22 what fell before does not count", x.above(0, 2), 15);
         CardCastle y = deck("2 2 9 0 0 0", 5, 9, 4);
         y.lean(0, 0, 0, 1, 45);
         c.same("21 nothing lies on it", y.supported(0, 0), 1);
@@ -768,6 +775,29 @@ public final class CastleEdgeTest {
         y.lean(0, 1, 0, 1, 45);
         c.same("23 the last column", y.onTable(1), 2);
         c.noIndex("23 one more", () -> y.onTable(2));
+    }
+
+    /** The loads of what is, also when it was asked before what would be. */
+    private static void loadsBehindTrials() {
+        CardCastle x = deck("3 2 9 0 0 0", 9, 9, 4);
+        x.lean(0, 0, 0, 1, 45);
+        x.lean(0, 1, 2, 3, 45);
+        x.lay(1, 0, 4);
+        x.lean(1, 0, 5, 6, 45);
+        x.fallsIfPulled(5);
+        c.same("23 behind fallsIfPulled", x.onTable(0), 14);
+        x.fallsIfPulled(5);
+        c.same("25 behind fallsIfPulled", x.meanReserve(), 68.0);
+        x.fallsIfPulled(5);
+        c.same("38 behind fallsIfPulled", Checks.written(x, x.writePair(0, 1)), "c/45\\d 6:72");
+        x.fallsIfPulled(5);
+        c.same("12 behind fallsIfPulled", x.flat(1, 0, 1), 12);
+        x.fallsBy(99, 0);
+        c.same("11 behind fallsBy", x.pair(0, 0, 5), 6);
+        x.safest(7);
+        c.same("19 behind safest", x.weakest(), 0);
+        x.supported(0, 0);
+        c.same("11 behind supported", x.pair(0, 0, 6), 66);
     }
 
     private static void meansAndShares() {

@@ -142,6 +142,14 @@ public final class TextEdgeTest {
         c.noArgument("3 a word that is cut off", () -> x.load(3));
         c.same("5 the word", x.errorPosition(), 0);
         Checks.feed(x, "table 2 1 1 0 0 0");
+        c.noArgument("3 a word that lacks its last letter", () -> x.load(4));
+        c.same("5 the word", x.errorPosition(), 0);
+        Checks.feed(x, "table 2 1 1 0 0 08");
+        c.same("3 a number of which only the first digit is parsed", x.load(17), 0);
+        c.same("9 that digit", x.setting(5), 0);
+        Checks.feed(x, "table 2 1 1 0 0 0999");
+        c.same("3 the four digits are not parsed", x.load(17), 0);
+        Checks.feed(x, "table 2 1 1 0 0 0");
         c.noArgument("3 cut off before a number", () -> x.load(16));
         c.same("5 the number of bytes that are parsed", x.errorPosition(), 16);
     }
@@ -596,6 +604,9 @@ public final class TextEdgeTest {
         found(x, "ac;", 3, -1);
         found(x, "ca", 2, -1);
         found(x, "abcde", 5, -1);
+        // With letters for the digits 1 to 26 in base 27, this is 2^32 more than the name a.
+        CardCastle a = loads("a short name", "table 2 1 1 0 0 0;card a 1 1");
+        found(a, "kbhsymw", 7, -1);
         CardCastle none = loads("no cards", "table 2 1 1 0 0 0");
         found(none, "a", 1, -1);
         CardCastle forty = loads("forty cards", Checks.deck("2 1 1 0 0 0", 40, 1, 1));
