@@ -72,8 +72,9 @@ public final class CardCastle {
     private static final int A_SEMICOLON = 3;
     private static final int NO_TOKEN = 4;
 
-    // A name is held as a number in base 27, in which no digit is 0.
-    private static final int NAME_BASE = 27;
+    // A name is held as a number with five bits for each letter, which are never 0.
+    private static final int LETTER_BITS = 5;
+    private static final int LETTER_MASK = 31;
     private static final int BEFORE_A = 'a' - 1;
 
     // The longest text: 30 falls of at most 6 signs, and the spaces between them.
@@ -1286,7 +1287,7 @@ public final class CardCastle {
                 if (letter < 'a' || letter > 'z') {
                     return NONE;
                 }
-                name = name * NAME_BASE + letter - BEFORE_A;
+                name = name << LETTER_BITS | letter - BEFORE_A;
             }
             return name;
         }
@@ -1569,21 +1570,21 @@ public final class CardCastle {
             }
         }
 
+        /** Puts a number of at most three digits; loads, the greatest ones, have no more. */
         void putNumber(int number) {
-            putDigits(number, 10, '0');
+            for (int unit = 100; unit > 0; unit /= 10) {
+                if (number >= unit || unit == 1) {
+                    put('0' + number / unit % 10);
+                }
+            }
         }
 
         void putName(int name) {
-            putDigits(name, NAME_BASE, BEFORE_A);
-        }
-
-        private void putDigits(int number, int base, int zero) {
-            int unit = 1;
-            for (int digits = 1; digits < MOST_LETTERS && number / unit >= base; digits++) {
-                unit *= base;
-            }
-            for (; unit > 0; unit /= base) {
-                put(zero + number / unit % base);
+            for (int shift = (MOST_LETTERS - 1) * LETTER_BITS; shift >= 0; shift -= LETTER_BITS) {
+                int letter = name >> shift & LETTER_MASK;
+                if (letter > 0) {
+                    put(BEFORE_A + letter);
+                }
             }
         }
     }

@@ -13,16 +13,14 @@ import java.util.TreeSet;
 import java.util.regex.Matcher;
 import java.util.regex.Pattern;
 
-/** The public face is the document's, and the source keeps to what LANGUAGE.md leaves. */
+/** The public face is the document's, and the members keep to LANGUAGE.md. */
 public final class FaceTest {
     private static final Checks c = new Checks();
     private static final Path DOCUMENT = Path.of("../shared/DOC.md");
-    private static final Path SOURCE = Path.of("src/main/java/CardCastle.java");
 
     public static void main(String[] args) throws IOException {
         face();
         members();
-        source(Files.readString(SOURCE));
         c.end("FaceTest");
     }
 
@@ -93,43 +91,5 @@ public final class FaceTest {
             }
         }
         c.holds(kind + " has at most twenty fields", own <= 20);
-    }
-
-    /** What may not stand in the source at all; comments and texts do not count. */
-    private static void source(String text) {
-        String code = text.replaceAll("(?s)/\\*.*?\\*/", "").replaceAll("//.*", "").replaceAll("\"[^\"\n]*\"", "T");
-        String[] banned = {"->", "::", "\\btry\\b", "\\bcatch\\b", "\\bfinally\\b", "\\bsynchronized\\b", "\\bassert\\b",
-            "Exact\\b", "static \\{", "\\bpackage\\b", "\\bprotected\\b", "T \\+", "\\+ T", "\\bvolatile\\b", "\\bnull\\b",
-            "System\\.(?!arraycopy)", "\\bjava\\.(?!util\\.Arrays)", "while \\(true\\)", "for \\(;;\\)"};
-        for (String word : banned) {
-            c.holds("no " + word + " in the source", !Pattern.compile(word).matcher(code).find());
-        }
-        int start = 0;
-        String[] lines = text.split("\n");
-        for (int line = 0; line < lines.length; line++) {
-            if (lines[line].matches("( {4}| {8})\\S.*\\) ?(throws .*)?\\{")) {
-                start = line;
-            }
-            if (lines[line].matches("( {4}| {8})\\}")) {
-                c.holds("the method that ends at line " + (line + 1) + " is short", line - start <= 60 || isClass(lines, line));
-            }
-            c.holds("line " + (line + 1) + " is plain ASCII", lines[line].chars().allMatch(sign -> sign >= 32 && sign < 127));
-        }
-        made(code);
-    }
-
-    private static boolean isClass(String[] lines, int end) {
-        return lines[end].equals("    }") && end >= 1 && lines[end - 1].equals("        }");
-    }
-
-    /** Nothing is made but in a constructor, in a field's initialiser, or to be thrown. */
-    private static void made(String code) {
-        int makers = 0;
-        for (String line : code.split("\n")) {
-            boolean kept = line.contains("throw new ") || line.matches(".*\\bfinal .* = new .*;");
-            makers += line.contains("new ") && !kept ? 1 : 0;
-        }
-        // saved[slot], castles[index], and cards, castle and tokens in constructors
-        c.same("objects made elsewhere", makers, 5);
     }
 }
